@@ -12,6 +12,7 @@ public final class ModelTest {
             seed = run * 1000003L;
             oneRun(run);
         }
+        fullSize();
         Checks.finish();
     }
 
@@ -20,7 +21,7 @@ public final class ModelTest {
         int maxConstraints = SIZES[below(SIZES.length)];
         QapCompiler q = new QapCompiler(maxWires, maxConstraints);
         Model model = new Model(maxWires, maxConstraints);
-        int building = 5 + below(50);
+        int building = 5 + below(run % 3 == 0 ? 120 : 50);
         String name = "run " + run + ": ";
         for (int i = 0; i < building; i++) {
             build(name, q, model);
@@ -37,6 +38,38 @@ public final class ModelTest {
         Checks.due(name + "solve", q.solve(), model.solve());
         Checks.due(name + "divide", q.divide(), model.divide());
         compareAll(name, q, model);
+    }
+
+    // Every wire and every constraint of the greatest object in use, where an index too far is past the end.
+    private static void fullSize() {
+        QapCompiler q = new QapCompiler(32, 16);
+        Model model = new Model(32, 16);
+        for (int w = 1; w < 32; w++) {
+            int kind = w % 3 == 0 ? QapCompiler.KIND_ADD : w % 3 == 1 ? QapCompiler.KIND_CMUL : QapCompiler.KIND_MUL;
+            int a = w - 1;
+            int b = w / 2;
+            if (w < 4) {
+                Checks.due("full: addInput", q.addInput(), model.addInput());
+            } else {
+                Checks.due("full: addGate " + w, q.addGate(kind, a, b), model.addGate(kind, a, b));
+            }
+        }
+        for (int j = 0; j < 16; j++) {
+            Checks.due("full: assertEqual", q.assertEqual(31, 30 - j), model.assertEqual(31, 30 - j));
+            Checks.due("full: setPoint", q.setPoint(j, -j), model.setPoint(j, -j));
+            Checks.due("full: setWitness", q.setWitness(j, value()), model.setWitness(j, 0));
+            Checks.due("full: setWitness", q.setWitness(j, j * j), model.setWitness(j, j * j));
+        }
+        Checks.due("full: wires", q.info(QapCompiler.INFO_WIRES, 0), 32);
+        Checks.due("full: constraints", q.info(QapCompiler.INFO_CONSTRAINTS, 0), 16);
+        Checks.due("full: last", q.info(QapCompiler.INFO_KIND, 31), QapCompiler.KIND_CMUL);
+        compareAll("full: ", q, model);
+        Checks.due("full: compile", q.compile(), model.compile());
+        Checks.due("full: divide", q.divide(), model.divide());
+        compareAll("full: ", q, model);
+        Checks.due("full: solve", q.solve(), model.solve());
+        Checks.due("full: divide", q.divide(), model.divide());
+        compareAll("full: ", q, model);
     }
 
     private static void build(String name, QapCompiler q, Model model) {
