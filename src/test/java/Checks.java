@@ -7,14 +7,24 @@ final class Checks {
     static final int MIN = -2147483648;
 
     private static int wrong = 0;
+    private static String sentence = "";
 
     private Checks() {
     }
 
+    /** Names the words of the document that the next checks stand for, so that a wrong answer tells them. */
+    static void sentence(String where, String words) {
+        sentence = where + " \"" + words + "\": ";
+    }
+
+    private static void tell(String line) {
+        wrong++;
+        System.out.println(sentence + line);
+    }
+
     static void due(String call, long got, long want) {
         if (got != want) {
-            wrong++;
-            System.out.println(call + " answered " + got + ", due is " + want);
+            tell(call + " answered " + got + ", due is " + want);
         }
     }
 
@@ -24,8 +34,7 @@ final class Checks {
 
     static void same(String what, String got, String want) {
         if (!got.equals(want)) {
-            wrong++;
-            System.out.println(what + ":\n  is  " + got + "\n  due " + want);
+            tell(what + ":\n  is  " + got + "\n  due " + want);
         }
     }
 
