@@ -41,6 +41,7 @@ public final class BuildingBoundaryTest {
         promise3MulMakesConstraint();
         promise3OthersMakeNone();
         promise3NothingElse();
+        promise4MeansEqual();
         promise4Compiled();
         promise4Operands();
         promise4Full();
@@ -578,6 +579,22 @@ public final class BuildingBoundaryTest {
             s.append(']');
         }
         return s.toString();
+    }
+
+    private static void promise4MeansEqual() {
+        Checks.sentence("Promise 4", "`assertEqual(a, b)` makes a constraint value(a) = value(b)");
+        QapCompiler q = new QapCompiler(8, 4);
+        q.addInput();
+        q.addInput();
+        q.assertEqual(1, 2);
+        for (int x : Circuits.EDGES) {
+            for (int y : Circuits.EDGES) {
+                q.setWitness(1, x);
+                q.setWitness(2, y);
+                int due = Circuits.reduced(x) == Circuits.reduced(y) ? 1 : 0;
+                Checks.due(x + " = " + y, q.info(QapCompiler.INFO_SATISFIED, 0), due);
+            }
+        }
     }
 
     private static void promise4Compiled() {

@@ -14,10 +14,13 @@ public final class QuotientBoundaryTest {
         promise12Exists();
         promise12Answer();
         promise12AnswerIsSatisfied();
+        promise12VanishesAtThePoints();
         promise12ChangesNothing();
+        promise12BelongsToTheWitness();
         promise12RemainderMeansSatisfied();
         promise12Identity();
         promise13Witness();
+        promise13StoredQuotient();
         promise13Test1();
         promise13Test2();
         promise13Test3();
@@ -157,6 +160,23 @@ public final class QuotientBoundaryTest {
         }
     }
 
+    private static void promise12VanishesAtThePoints() {
+        Checks.sentence("Promise 12", "Since R is zero exactly when P vanishes at every point[j] for j < m");
+        for (int m = 2; m <= 16; m++) {
+            QapCompiler q = Circuits.sizedDivided(m, 7, -7);
+            for (int j = 0; j < m; j++) {
+                Checks.due("m " + m + ", SATISFIED, P at point " + j, q.evaluate(PP, q.info(QapCompiler.INFO_POINT, j)), 0);
+            }
+            q.setWitness(2, -8);
+            Checks.due("not exact", q.divide(), 0);
+            for (int j = 0; j < m; j++) {
+                int point = q.info(QapCompiler.INFO_POINT, j);
+                Checks.due("m " + m + ", P at point " + j, q.evaluate(PP, point), j % 2);
+                Checks.due("m " + m + ", R at point " + j, q.evaluate(R, point), j % 2);
+            }
+        }
+    }
+
     private static void promise12ChangesNothing() {
         Checks.sentence("Promise 12", "divide changes neither the witness, the circuit nor the points.");
         for (int m = 1; m <= 16; m++) {
@@ -168,6 +188,22 @@ public final class QuotientBoundaryTest {
             q.divide();
             Checks.same("all of it", Checks.wires(q) + Checks.constraints(q) + Checks.points(q), before);
             Checks.due("phase", q.info(QapCompiler.INFO_COMPILED, 0), 1);
+        }
+    }
+
+    private static void promise12BelongsToTheWitness() {
+        Checks.sentence("Promise 12", "While the quotient exists it always belongs to the current witness "
+            + "(any change of the witness removes it)");
+        QapCompiler q = Circuits.mixedCompiled();
+        for (int i = 0; i < 20; i++) {
+            q.divide();
+            Exact.quotient(q, 3);
+            if (i % 3 == 0) {
+                q.solve();
+            } else {
+                q.setWitness(i % 2 == 0 ? 5 : 1, i * i - 50);
+            }
+            Checks.due("removed at change " + i, q.info(QapCompiler.INFO_HAS_QUOTIENT, 0), 0);
         }
     }
 
@@ -210,6 +246,21 @@ public final class QuotientBoundaryTest {
             q.solve();
             Exact.weightedColumns(q, 16);
             Exact.product(q, 16);
+        }
+    }
+
+    private static void promise13StoredQuotient() {
+        Checks.sentence("Promise 13", "POLY_H and POLY_R use the stored quotient.");
+        QapCompiler line = Circuits.remainderLine(4, -3);
+        Checks.due("H at 0", line.coeff(H, 0), 0);
+        Checks.due("H at 1", line.coeff(H, 1), 0);
+        Checks.due("R at 0", line.coeff(R, 0), 4);
+        Checks.due("R at 1", line.coeff(R, 1), P - 3);
+        for (int m = 1; m <= 16; m++) {
+            QapCompiler q = Circuits.sizedDivided(m, 5, 6);
+            Exact.quotient(q, m);
+            Checks.due("H is not 0, m " + m, q.evaluate(H, 3) != 0, m > 1);
+            Checks.due("R is not 0, m " + m, q.evaluate(R, 3) != 0, m > 1);
         }
     }
 

@@ -17,6 +17,7 @@ public final class TermsBoundaryTest {
         productsWrap();
         longSumsDoNotOverflow();
         polynomialsDoNotOverflow();
+        coefficientsByPower();
         wiresInCreationOrder();
         wireZeroFromTheStart();
         operandsAreOlder();
@@ -38,6 +39,7 @@ public final class TermsBoundaryTest {
         pointsAreDistinct();
         constraintBelongsToItsPoint();
         columnsHaveDegreeBelowM();
+        sumsOfColumns();
         productHasItsTopCoefficient();
         vanishingIsMonic();
         remainderIsShort();
@@ -269,6 +271,27 @@ public final class TermsBoundaryTest {
             Exact.product(q, m);
             Exact.quotient(q, m);
             Exact.evaluations(q);
+        }
+    }
+
+    // R is -4 + 3X: the lowest coefficient is the value at 0, and all of them together the value at 1.
+    private static void coefficientsByPower() {
+        Checks.sentence("Field", "coefficient k of a polynomial is that of x^k.");
+        QapCompiler q = Circuits.remainderLine(-4, 3);
+        Checks.due("R at x^0", q.coeff(QapCompiler.POLY_R, 0), P - 4);
+        Checks.due("R at x^1", q.coeff(QapCompiler.POLY_R, 1), 3);
+        Checks.due("Z = 2 - 3X + X^2 at x^0", q.coeff(QapCompiler.POLY_Z, 0), 2);
+        Checks.due("Z = 2 - 3X + X^2 at x^1", q.coeff(QapCompiler.POLY_Z, 1), P - 3);
+        Checks.due("Z = 2 - 3X + X^2 at x^2", q.coeff(QapCompiler.POLY_Z, 2), 1);
+        QapCompiler divided = Circuits.mixedDivided();
+        for (int which = 0; which < 7; which++) {
+            int length = which == QapCompiler.POLY_Z ? 4 : which == QapCompiler.POLY_P ? 5 : 3;
+            long sum = 0;
+            for (int k = 0; k < length; k++) {
+                sum += divided.coeff(which, k);
+            }
+            Checks.due(which + " at 0", divided.evaluate(which, 0), divided.coeff(which, 0));
+            Checks.due(which + " at 1", divided.evaluate(which, 1), sum % P);
         }
     }
 
@@ -629,6 +652,26 @@ public final class TermsBoundaryTest {
             int size = m;
             Checks.refused(q, "degree " + m, () -> q.columnCoeff(QapCompiler.MATRIX_A, 1, size));
             Checks.same("other points beyond m", Checks.polynomials(other), Checks.polynomials(q));
+        }
+    }
+
+    // With every stored value 0, the column of the constant one is all that is left.
+    private static void sumsOfColumns() {
+        Checks.sentence("QAP", "With the current witness, A(x) = sum over variables v of x_v * A_v(x); "
+            + "likewise B(x) and C(x).");
+        for (int m = 1; m <= 16; m++) {
+            QapCompiler q = Circuits.sized(m);
+            q.compile();
+            for (int matrix = 0; matrix < 3; matrix++) {
+                for (int k = 0; k < m; k++) {
+                    String at = "m " + m + ", all 0, " + matrix + " at " + k;
+                    Checks.due(at, q.coeff(matrix, k), q.columnCoeff(matrix, 0, k));
+                }
+            }
+            q.setWitness(1, -1);
+            q.setWitness(2, Checks.MIN);
+            q.setWitness(4, 1073741824);
+            Exact.weightedColumns(q, m);
         }
     }
 
