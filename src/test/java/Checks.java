@@ -32,6 +32,12 @@ final class Checks {
         due(call, got ? 1 : 0, want ? 1 : 0);
     }
 
+    static void holds(String what, boolean held) {
+        if (!held) {
+            tell(what + " does not hold");
+        }
+    }
+
     static void same(String what, String got, String want) {
         if (!got.equals(want)) {
             tell(what + ":\n  is  " + got + "\n  due " + want);
